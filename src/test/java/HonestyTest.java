@@ -30,6 +30,7 @@ public final class HonestyTest {
         }
         CHECK.due("a bad 7th", x.note(0, 0, 0, 100), HonestGold.BAD);
         CHECK.due("a 7th", x.note(0, 0, 0, 0), HonestGold.FULL);
+        CHECK.due("it was refused", x.status(2), 1);
         CHECK.due("forget", x.forget(), 6);
         CHECK.due("count", x.count(4), 0);
         CHECK.due("note again", x.note(0, 0, 0, 0), 1);
@@ -78,6 +79,11 @@ public final class HonestyTest {
         x.forget();
         x.note(2, 3, 12, 2);
         CHECK.due("half or minister on day 1: no weighing tells them", x.next(2), 0);
+        HonestGold b = Check.told("gold;one 5 2 1 1;one 0 12 1 1;");
+        b.note(0, 5, 15, 1);
+        CHECK.due("smith or banker by honesty 2: 21 would tell, 20 do not", b.next(0), 0);
+        b.note(1, 9, 108, 1);
+        CHECK.due("plain or child by honesty 12: nothing tells", b.next(1), 0);
         CHECK.due("not there", x.next(6), HonestGold.BAD);
         CHECK.due("below", x.next(-1), HonestGold.BAD);
     }
@@ -122,6 +128,9 @@ public final class HonestyTest {
         x.winds(999, 0);
         CHECK.due("no wind", x.part(0), 13);
         CHECK.due("by 1", x.part(1), 1);
+        x.winds(999, 3);
+        CHECK.due("nothing weighs less than nothing", x.winds(0, 10), 1);
+        CHECK.due("all are left", x.part(0), 13);
         CHECK.due("w", x.winds(-1, 0), HonestGold.BAD);
         CHECK.due("w", x.winds(1000, 0), HonestGold.BAD);
         CHECK.due("c", x.winds(0, -1), HonestGold.BAD);
@@ -147,7 +156,14 @@ public final class HonestyTest {
         int answer = x.years(999999, 60);
         CHECK.due("nothing is changed", x.digest(), before);
         CHECK.due("the same seed, the same answer", x.years(999999, 60), answer);
-        CHECK.due("told by hand", x.years(424242, 40), byHand(Check.told(SIX), 424242, 40));
+        for (int n = 0; n <= 60; n += 3) {
+            int seed = 999999 - 16661 * n;
+            CHECK.due("years(" + seed + ", " + n + ") by hand", x.years(seed, n), byHand(Check.told(SIX), seed, n));
+        }
+        HonestGold few = Check.told("gold;one 0 12 30 0;one 3 12 30 0;");
+        CHECK.due("5:1, 3:1, 4:1 are nobody", few.years(424242, 3), 750);
+        CHECK.due("0:2 behind them, and no mending that day", few.years(424242, 4), 690);
+        CHECK.due("1:3 behind that", few.years(424242, 5), 540);
         HonestGold late = Check.told("gold;one 4 12 10 0;");
         for (int d = 0; d < 999; d++) {
             late.day();

@@ -29,7 +29,9 @@ public final class KeepingTest {
         HonestGold x = Check.told("gold;one 0 7 9 3;one 3 5 8 2;hands 0 1;lie 0 1;");
         x.type('a');
         x.winds(999, 5);
-        x.note(1, 2, 3, 4);
+        for (int i = 1; i <= 6; i++) {
+            x.note(i % 2, 2 * i, 3 * i, 4 * i);
+        }
         CHECK.due("image -1", x.image(-1), HonestGold.BAD);
         CHECK.due("image 2", x.image(2), HonestGold.BAD);
         CHECK.due("from -1", x.from(-1), HonestGold.BAD);
@@ -82,6 +84,18 @@ public final class KeepingTest {
         CHECK.due("undo", x.undo(), 0);
         CHECK.due("honesty", x.of(0, 1), 7);
         CHECK.due("no more", x.undo(), HonestGold.NO);
+        HonestGold y = Check.told("gold;one 0 3 9 3;");
+        for (int d = 0; d < 8; d++) {
+            y.day();
+        }
+        y.image(0);
+        y.lie(0, 4);
+        y.gold();
+        y.from(0);
+        for (int d = 7; d >= 0; d--) {
+            CHECK.due("all eight: the day", y.undo(), d);
+            CHECK.due("all eight: honesty", y.of(0, 1), 3 + d);
+        }
     }
 
     private static void status() {

@@ -123,6 +123,7 @@ public final class TreasuryTest {
         }
         CHECK.due("a bad 151st", x.type(128), HonestGold.BAD);
         CHECK.due("a 151st", x.type('a'), HonestGold.FULL);
+        CHECK.due("it was refused", x.status(2), 1);
         CHECK.due("count(6)", x.count(6), 150);
         CHECK.due("clear", x.clear(), 150);
         CHECK.due("count(6)", x.count(6), 0);
@@ -193,6 +194,9 @@ public final class TreasuryTest {
         fault("   ^");
         fault("^gol");
         fault("^golden;");
+        fault("^sold;");
+        fault("gold;^line 0 1;");
+        fault("gold;^zzzzz 0;");
         fault("gold^");
         fault("gold  ^");
         fault(" ^one 0 1 1 1;");

@@ -57,6 +57,15 @@ public final class WeighingTest {
         CHECK.due("now", x.when(0, 20), 0);
         CHECK.due("the minister, 0 or more", x.when(1, 0), 0);
         CHECK.due("the minister tomorrow", x.when(1, 60), 1);
+        x.day();
+        x.day();
+        CHECK.due("the minister on day 2", x.when(1, 60), 0);
+        x.lie(1, 4);
+        CHECK.due("behind a lie: 50 on day 2, 0 on day 3, 55 on day 4, 60 on day 5", x.when(1, 51), 2);
+        CHECK.due("behind a lie: 50 on day 2, 0 on day 3, 55 on day 4, 60 on day 5", x.when(1, 56), 3);
+        x.undo();
+        x.undo();
+        x.undo();
         CHECK.due("the banker", x.when(2, 60), 1);
         CHECK.due("the banker never", x.when(2, 61), HonestGold.NONE);
         CHECK.due("a child without gold", x.when(3, 1), HonestGold.NONE);
@@ -109,6 +118,10 @@ public final class WeighingTest {
         x.hands(0, 5, 1);
         CHECK.due("fewest hands", x.bag(0, 5, 1, 1), 5);
         CHECK.due("two of them", x.bag(0, 5, 1, 2), -5);
+        HonestGold back = Check.told("gold;one 0 2 1 1;one 0 9 1 1;one 0 9 1 1;hands 2 0;hands 0 1;");
+        CHECK.due("through 0, the lightest", back.bag(2, 1, 5, -1), 10);
+        CHECK.due("through 0", back.bag(2, 1, 5, 1), 0);
+        CHECK.due("to 0", back.bag(2, 0, 5, 1), 0);
         HonestGold y = Check.told("gold;one 0 9 1 1;one 0 9 1 1;one 0 9 1 1;one 0 9 1 1;one 0 9 1 1;one 0 9 1 1;"
             + "hands 0 1;hands 1 2;hands 2 3;hands 3 4;hands 4 5;");
         CHECK.due("through all hands", y.bag(0, 5, 1, 5), 5);
@@ -174,6 +187,8 @@ public final class WeighingTest {
         CHECK.due("bags alike: as they stand", z.shelves(4, 0, 0), 0);
         CHECK.due("bags alike: as they stand", z.shelves(4, 0, 2), 2);
         CHECK.due("how much", z.shelves(20, 9, -1), 38);
+        CHECK.due("an empty bag", z.shelves(0, 9, -1), 0);
+        CHECK.due("as they stand", z.shelves(0, 9, 1), 1);
         CHECK.due("nobody is there", new HonestGold().shelves(1, 1, -1), 0);
         int bad = x.status(0);
         CHECK.due("a -1", x.shelves(-1, 0, -1), -10);
