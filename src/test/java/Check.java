@@ -1,3 +1,5 @@
+import java.math.BigInteger;
+
 /** Counts the answers that are not the ones due. */
 final class Check {
     private int wrong = 0;
@@ -32,6 +34,15 @@ final class Check {
             throw new IllegalStateException("the test's own text has a fault: " + text + " " + items);
         }
         return x;
+    }
+
+    /** h = 31 h + v for each v, in numbers without an end, then cut to a long. */
+    static long mix(long... values) {
+        BigInteger h = BigInteger.valueOf(1307);
+        for (long v : values) {
+            h = h.multiply(BigInteger.valueOf(31)).add(BigInteger.valueOf(v));
+        }
+        return h.longValue();
     }
 
     void end() {

@@ -147,7 +147,7 @@ public final class KeepingTest {
     }
 
     private static void digest() {
-        CHECK.due("of a new object", new HonestGold().digest(), mix(0, 0, 0, 0, 0, 0, 0, 0, 1));
+        CHECK.due("of a new object", new HonestGold().digest(), Check.mix(0, 0, 0, 0, 0, 0, 0, 0, 1));
         HonestGold x = Check.told("gold;one 0 7 9 3;one 3 5 8 2;hands 1 0;lie 0 1;");
         x.note(1, 2, 3, 4);
         x.note(0, 5, 6, 7);
@@ -156,16 +156,8 @@ public final class KeepingTest {
         x.type(';');
         x.winds(999, 1);
         x.status(9);
-        CHECK.due("of all", x.digest(), mix(2, 1, 17, 1, 2, 2, 1,
+        CHECK.due("of all", x.digest(), Check.mix(2, 1, 17, 1, 2, 2, 1,
             0, 6, 9, 3, 0, 0, 3, 4, 8, 2, 1, 1, 1, 2, 3, 4, 0, 5, 6, 7, 153, 10));
         CHECK.due("it changes nothing", x.status(0), 1);
-    }
-
-    private static long mix(long... values) {
-        long h = 1307;
-        for (long v : values) {
-            h = 31 * h + v;
-        }
-        return h;
     }
 }

@@ -10,7 +10,6 @@ public final class TreasuryTest {
         typeAndClear();
         readTreasury();
         readReplaces();
-        faults();
         CHECK.end();
     }
 
@@ -178,68 +177,5 @@ public final class TreasuryTest {
         CHECK.due("no old hands", x.of(1, 5), 0);
         CHECK.due("images", x.from(1), 1);
         CHECK.due("people of the image", x.count(0), 2);
-    }
-
-    /** At ^ is the fault; the sign itself is left out. */
-    private static void fault(String marked) {
-        int place = marked.indexOf('^');
-        String text = marked.replace("^", "");
-        HonestGold x = Check.told("gold;one 0 7 9 3;");
-        CHECK.due("read of '" + text + "'", Check.read(x, text), -10 - place);
-        CHECK.due("all stays", x.of(0, 2), 9);
-    }
-
-    private static void faults() {
-        fault("^");
-        fault("   ^");
-        fault("^gol");
-        fault("^golden;");
-        fault("^sold;");
-        fault("gold;^line 0 1;");
-        fault("gold;^zzzzz 0;");
-        fault("gold^");
-        fault("gold  ^");
-        fault(" ^one 0 1 1 1;");
-        fault("^;gold;");
-        fault("^Gold;");
-        fault("gold;^gold;");
-        fault("gold;^\tone 0 1 1 1;");
-        fault("gold;^ones 0 1 1 1;");
-        fault("gold;^7;");
-        fault("gold;^;");
-        fault("gold ^one 0 1 1 1;");
-        fault("gold;one ^6 1 1 1;");
-        fault("gold;one 5 ^13 1 1;");
-        fault("gold;one 5 12 ^31 1;");
-        fault("gold;one 5 12 30 ^21;");
-        fault("gold;one 5 12 30^;20;");
-        fault("gold;one 5 12 30 20 ^1;");
-        fault("gold;one 5 ^012 30 20;");
-        fault("gold;one 5 ^0000 30 20;");
-        fault("gold;one ^-1 1 1 1;");
-        fault("gold;one 5 12^");
-        fault("gold;one 5 12 30 20 ^");
-        fault("gold;one ^one;");
-        fault("gold;one 1 1 1 1^lie;");
-        fault("gold;hands ^0;");
-        fault("gold;hands^;");
-        fault("gold;one 0 1 1 1;hands 0 ^0;");
-        fault("gold;one 0 1 1 1;hands 0 ^1;one 0 1 1 1;");
-        fault("gold;one 0 1 1 1;hands ^1 0;one 0 1 1 1;");
-        fault("gold;one 0 1 1 1;hands 0 ^000;");
-        fault("gold;one 0 1 1 1;hands 0 ^a;");
-        fault("gold;one 0 1 1 1;hands 0^");
-        fault("gold;lie ^0 1;");
-        fault("gold;one 0 1 1 1;lie 0 ^0;");
-        fault("gold;one 0 1 1 1;lie 0 ^5;");
-        fault("gold;one 0 1 1 1;lie 0^;");
-        fault("gold;one 0 1 1 1;lie 0 4 ^4;");
-        fault("gold;one 0 1 1 1;lie ^1 1;");
-        fault("gold;one 0 1 1 1;lie^");
-        String six = "gold;one 0 0 0 0;one 0 0 0 0;one 0 0 0 0;one 0 0 0 0;one 0 0 0 0;one 0 0 0 0;";
-        fault(six + "^one 0 0 0 0;");
-        fault(six + " ^one");
-        fault(six + "hands 5 4 3 2 1 0 ^5;");
-        fault(six + "hands 5 ^6;");
     }
 }
