@@ -33,6 +33,7 @@ public final class HonestyEdgesTest {
         yearsOfNothing();
         yearsOfNobody();
         yearsByOddsOfEachSize();
+        yearsByWhatIsCut();
         yearsBehindLiesOfToday();
         yearsOfTheMost();
         yearsOnTheLastDay();
@@ -421,6 +422,23 @@ public final class HonestyEdgesTest {
                 CHECK.due("one " + p + ", size " + s, x.years(seedOf(p, s), 1), 6 * 108 - 9 * s);
             }
         }
+    }
+
+    /** "X by 1048576 (cut)", "X by 65536 (cut)": SEEDS whose first X lies just behind, just ahead of the next one. */
+    private static void yearsByWhatIsCut() {
+        HonestGold x = of("one 0 12 1 0;one 0 12 1 0;one 0 12 1 0;one 0 12 1 0;one 0 12 1 0;one 0 12 1 0;");
+        int[][] due = {{241, 3}, {822, 2}, {5059, 0}, {959, 4}, {1403, 3}, {3009, 0}};
+        for (int[] d : due) {
+            CHECK.due("a lie of size " + d[1], x.years(d[0], 1), 72 - d[1]);
+        }
+        HonestGold kinds = of("one 0 12 1 0;one 1 12 1 0;one 2 12 2 0;one 3 12 1 0;one 2 12 4 0;one 0 12 5 0;");
+        int all = 12 + 12 + 12 + 13 + 24 + 60;
+        CHECK.due("5 tells 4", kinds.years(3, 1), all - 20);
+        CHECK.due("0 tells 3", kinds.years(13, 1), all - 3);
+        CHECK.due("3 tells 4", kinds.years(16, 1), all - 8);
+        CHECK.due("0 tells 4", kinds.years(9, 1), all - 4);
+        CHECK.due("2 tells 4", kinds.years(15, 1), all - 2);
+        CHECK.due("4 tells 4", kinds.years(22, 1), all - 4);
     }
 
     private static BigInteger behind(BigInteger x) {

@@ -6,6 +6,7 @@ public final class KeepingEdgesTest {
     public static void main(String[] args) {
         undoOfNothing();
         undoOfEachStep();
+        undoOfSix();
         undoOfSomethingThatChangedNothing();
         undoOfEight();
         undoOfANinth();
@@ -73,6 +74,41 @@ public final class KeepingEdgesTest {
         }
         CHECK.due("the first day", x.undo(), 0);
         CHECK.due("no more", x.undo(), NO);
+    }
+
+    /** "HONESTY, PIECES, who LIED": of each of six. */
+    private static void undoOfSix() {
+        HonestGold x = new HonestGold();
+        for (int p = 0; p < 6; p++) {
+            x.one(0, 5 + p, 20 + p, 0);
+        }
+        for (int p = 0; p < 6; p++) {
+            x.hands(p, (p + 1) % 6, 1);
+        }
+        x.lie(1, 1);
+        x.lie(4, 1);
+        for (int p = 0; p < 4; p++) {
+            x.give(p, p + 1, 10 + p);
+        }
+        x.day();
+        x.lie(5, 4);
+        x.undo();
+        x.undo();
+        int[] honesty = {5, 5, 7, 8, 8, 10};
+        int[] pieces = {10, 20, 21, 22, 37, 25};
+        for (int p = 0; p < 6; p++) {
+            CHECK.due("honesty of " + p, x.of(p, 1), honesty[p]);
+            CHECK.due("pieces of " + p, x.of(p, 2), pieces[p]);
+            CHECK.due("whether " + p + " lied", x.of(p, 4), p == 1 || p == 4 ? 1 : 0);
+        }
+        for (int step = 0; step < 6; step++) {
+            CHECK.due("the day", x.undo(), 0);
+        }
+        for (int p = 0; p < 6; p++) {
+            CHECK.due("honesty of " + p, x.of(p, 1), 5 + p);
+            CHECK.due("pieces of " + p, x.of(p, 2), 20 + p);
+            CHECK.due("whether " + p + " lied", x.of(p, 4), 0);
+        }
     }
 
     /** A LIE at HONESTY 0, a DAY of nobody or of those who are 12: there is a step, and it is undone. */
@@ -323,7 +359,9 @@ public final class KeepingEdgesTest {
         x.one(2, 2, 2, 2);
         x.hands(0, 1, 1);
         x.lie(0, 1);
-        x.note(0, 3, 3, 3);
+        for (int i = 0; i < 6; i++) {
+            x.note((i + 1) % 2, 3, 3, 3);
+        }
         x.from(0);
         CHECK.due("as it was", x.digest(), at);
         CHECK.due("six are full", x.one(0, 0, 0, 0), HonestGold.FULL);

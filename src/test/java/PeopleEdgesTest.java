@@ -6,6 +6,7 @@ public final class PeopleEdgesTest {
         daysGoByForNobody();
         goldTellsHowManyThereWere();
         goldLeavesFour();
+        nobodyLiedBehindGold();
         sixComeAndSixMoreBehindGold();
         oneComesAsNobodyElse();
         nobodyHandsAtFirst();
@@ -92,6 +93,23 @@ public final class PeopleEdgesTest {
         CHECK.due("image 1 is of day 3", x.count(1), 3);
     }
 
+    /** "Who LIED today (bits; none at first)" */
+    private static void nobodyLiedBehindGold() {
+        CHECK.due("none at first", new HonestGold().count(3), 0);
+        HonestGold x = plainSix();
+        for (int p = 0; p < 6; p++) {
+            x.lie(p, 1);
+        }
+        x.gold();
+        CHECK.due("nobody", x.count(3), 0);
+        for (int p = 0; p < 6; p++) {
+            x.one(0, 6, 30, 0);
+            CHECK.due("did not lie", x.of(p, 4), 0);
+        }
+        x.day();
+        CHECK.due("is mended", x.of(5, 1), 7);
+    }
+
     /** "PEOPLE 0 .. 5, as they come"; "One comes: the number." */
     private static void sixComeAndSixMoreBehindGold() {
         HonestGold x = new HonestGold();
@@ -160,7 +178,7 @@ public final class PeopleEdgesTest {
         return x.weighs(0, n);
     }
 
-    /** "PLAIN: n times h"; "CHILD: n times 12"; "HALF: half (cut) of PLAIN"; "SMITH: PLAIN and n" */
+    /** "PLAIN: n times h"; "CHILD (under PLAIN): n times 12"; "HALF (under PLAIN): half (cut)"; "SMITH (under PLAIN): PLAIN and n" */
     private static void weightsOfKinds() {
         int[][] due = {
             {0, 0, 99, 0}, {0, 1, 1, 1}, {0, 12, 0, 0}, {0, 12, 99, 1188},
@@ -173,7 +191,7 @@ public final class PeopleEdgesTest {
         }
     }
 
-    /** "MINISTER: as HALF, 0 on DAYS that leave 0 by 3" */
+    /** "MINISTER (under HALF): as HALF, 0 on DAYS that leave 0 by 3" */
     private static void ministersDays() {
         HonestGold x = Check.told("gold;one 4 12 11 0;one 2 12 11 0;");
         for (int day = 0; day <= 60; day++) {
@@ -188,7 +206,7 @@ public final class PeopleEdgesTest {
         CHECK.due("11 by 11: 60 and a half, cut", odd.weighs(0, 11), 60);
     }
 
-    /** "BANKER: as SMITH, 60 at most" */
+    /** "BANKER (under SMITH): as SMITH, 60 at most" */
     private static void bankersSixty() {
         CHECK.due("59", weight(5, 0, 59), 59);
         CHECK.due("60", weight(5, 0, 60), 60);

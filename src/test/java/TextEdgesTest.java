@@ -19,6 +19,7 @@ public final class TextEdgesTest {
         liesOfAText();
         blanksBetween();
         readTakesThePlaceOfAll();
+        nobodyLiedButByTheText();
         readLeavesFour();
         aWordThatIsNone();
         goldAgain();
@@ -34,6 +35,7 @@ public final class TextEdgesTest {
         textsThatEndTooEarly();
         anEmptyText();
         theFirstFaultIsTold();
+        aMendedTextIsRead();
         CHECK.end();
     }
 
@@ -191,6 +193,18 @@ public final class TextEdgesTest {
         ofOne(x, 1, 1, 1, 1, 1, 0, 0);
         x.one(0, 0, 0, 0);
         ofOne(x, 2, 0, 0, 0, 0, 0, 0);
+    }
+
+    /** Who LIED, and to whom one hands, is told by this TEXT alone: not by one that was read, or failed, ahead of it. */
+    private static void nobodyLiedButByTheText() {
+        HonestGold x = new HonestGold();
+        CHECK.due("with lies", Check.read(x, TWO + "lie 0 1;lie 1 1;hands 0 1;hands 1 0;"), 7);
+        CHECK.due("years ask aside", x.years(0, 1), 144);
+        CHECK.due("with a fault behind lies", Check.read(x, TWO + "lie 0 1;lie 1 1;hands 0 1;hands 1 0;;"), -75);
+        CHECK.due("without", Check.read(x, TWO), 3);
+        CHECK.due("nobody lied", x.count(3), 0);
+        ofOne(x, 0, 0, 9, 9, 9, 0, 0);
+        ofOne(x, 1, 0, 9, 9, 9, 0, 0);
     }
 
     /** "all but IMAGES, THE TEXT, THE FRACTION, STATUS" */
@@ -387,5 +401,21 @@ public final class TextEdgesTest {
         fault(TWO + "hands 0 ^0 7 x;");
         fault(TWO + "lie ^7 7;");
         fault("gold;^x;one 0 9 9 9;");
+    }
+
+    /** A FAULT is of that reading alone. */
+    private static void aMendedTextIsRead() {
+        HonestGold x = new HonestGold();
+        Twins.type(x, "gold;one 0 9 9 9");
+        CHECK.due("too early", x.read(), -26);
+        CHECK.due("again", x.read(), -26);
+        x.type(';');
+        CHECK.due("then not", x.read(), 2);
+        CHECK.due("one is there", x.count(0), 1);
+        x.type(';');
+        CHECK.due("a fault behind it", x.read(), -27);
+        CHECK.due("one is there still", x.count(0), 1);
+        CHECK.due("another text", Check.read(x, "gold;"), 1);
+        CHECK.due("nobody is there", x.count(0), 0);
     }
 }

@@ -33,6 +33,7 @@ public final class WeighingEdgesTest {
         shelvesOfEmptyBags();
         shelvesOfLikeBags();
         shelvesInTheFirstWay();
+        askedForLessBehindMore();
         CHECK.end();
     }
 
@@ -382,5 +383,32 @@ public final class WeighingEdgesTest {
         CHECK.due("the first way", minister.shelves(1, 3, 1), 1);
         minister.day();
         CHECK.due("10 by 1, 5 by 4 (20), 2 by 7: 10 on day 1", minister.shelves(1, 3, NONE), 10);
+    }
+
+    /** What was asked ahead leaves nothing behind: of fewer pieces, of fewer people. */
+    private static void askedForLessBehindMore() {
+        HonestGold x = of("one 0 10 0 1;one 0 2 0 1;one 0 5 0 1;one 0 12 0 1;one 0 12 0 1;one 0 12 0 1;hands 0 3;hands 3 1;");
+        x.image(0);
+        for (int round = 0; round < 2; round++) {
+            x.from(0);
+            x.shelves(20, 9, NONE);
+            x.bag(0, 1, 99, NONE);
+            x.hire(120, 99, 0);
+            CHECK.due("shelves", x.shelves(1, 1, NONE), 12);
+            CHECK.due("bag", x.bag(0, 1, 1, NONE), 2);
+            CHECK.due("bag's hand", x.bag(0, 1, 1, 1), 3);
+            CHECK.due("hire", x.hire(2, 1, 1), 24);
+            CHECK.due("read", Check.read(x, "gold;one 0 10 0 0;one 0 2 0 0;one 0 5 0 0;"), 4);
+            CHECK.due("1, 2, 3 with three", x.shelves(1, 1, NONE), 6);
+            CHECK.due("the bag of 1", x.shelves(1, 1, 1), 2);
+            CHECK.due("no hands", x.bag(0, 1, 1, 0), NONE);
+            CHECK.due("three for hire", x.hire(120, 1, 0), 7);
+        }
+        HonestGold like = of("one 0 1 0 0;one 0 1 0 0;one 0 1 0 0;");
+        CHECK.due("20 is the lightest of 20, 29, 38", like.shelves(20, 9, NONE), 20);
+        CHECK.due("1 is the lightest of 1, 2, 3", like.shelves(1, 1, NONE), 1);
+        for (int p = 0; p < 3; p++) {
+            CHECK.due("the first way", like.shelves(1, 1, p), p);
+        }
     }
 }
