@@ -1,5 +1,6 @@
 import java.io.IOException;
 import java.lang.management.ManagementFactory;
+import java.lang.reflect.Field;
 import java.lang.reflect.Member;
 import java.lang.reflect.Method;
 import java.lang.reflect.Modifier;
@@ -24,6 +25,10 @@ public final class LanguageTest {
 
     public static void main(String[] args) throws IOException {
         face();
+        fields(HonestGold.class);
+        for (Class<?> inner : HonestGold.class.getDeclaredClasses()) {
+            fields(inner);
+        }
         String source = Files.readString(Path.of("src/main/java/HonestGold.java"));
         words(source);
         sizes(source);
@@ -63,6 +68,21 @@ public final class LanguageTest {
         CHECK.due("the constants", constants.equals(new TreeSet<>(Arrays.asList("NONE", "BAD", "NO", "FULL"))));
         CHECK.due("one constructor", type.getDeclaredConstructors().length, 1);
         CHECK.due("some twelve classes", 1 + type.getDeclaredClasses().length <= 12);
+    }
+
+    /** Static fields are constants, and a class has some twenty fields beside them. */
+    private static void fields(Class<?> type) {
+        int own = 0;
+        for (Field field : type.getDeclaredFields()) {
+            if (Modifier.isStatic(field.getModifiers())) {
+                boolean constant = field.getType().isPrimitive() || field.getType() == String.class;
+                CHECK.due("a constant: " + field, constant && Modifier.isFinal(field.getModifiers()));
+            } else {
+                CHECK.due("not seen from outside: " + field, Modifier.isPrivate(field.getModifiers()));
+                own++;
+            }
+        }
+        CHECK.due("fields of " + type, own <= 20);
     }
 
     private static String signature(Method method) {
